@@ -62,9 +62,7 @@ public final class TrunkRadio {
     }
 
     public int clear() {
-        int had = text.length;
-        text.length = 0;
-        return had;
+        return text.empty();
     }
 
     public int net() {
@@ -74,7 +72,7 @@ public final class TrunkRadio {
         }
         told.copy(trial);
         now.begin(told);
-        text.length = 0;
+        text.empty();
         past.lose();
         seen = 0;
         imagesKept = 0;
@@ -544,6 +542,12 @@ public final class TrunkRadio {
             letters[length] = letter;
             length++;
             return true;
+        }
+
+        int empty() {
+            int had = length;
+            length = 0;
+            return had;
         }
 
         /** How many ITEMS there are, or -10 less FAULT; what net holds behind a FAULT is of no use. */

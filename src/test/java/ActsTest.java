@@ -396,6 +396,14 @@ public final class ActsTest {
         y.releases(0);
         y.ticks(1);
         Check.due("like ones: the lowest TALKS", y.talker(1), 1);
+        TrunkRadio z = Check.told("c1 1;a9;w20;r0 0 0;r0 1 1;r0 2 0;");
+        z.presses(0, 1);
+        z.ticks(1);
+        z.presses(2, 0);
+        z.ticks(5);
+        z.presses(1, 0);
+        z.ticks(1);
+        Check.due("6 is ahead of 4 + 1", z.queue(0), 2);
     }
 
     private static void oneTalksInAGroup() {
@@ -536,6 +544,15 @@ public final class ActsTest {
         Check.dueRadio(x, 0, 4, 1, 0, 1);
         Check.dueRadio(x, 1, 4, 1, 1, 2);
         Check.dueRadio(x, 2, 3, 1, 1, 0);
+        TrunkRadio z = Check.told("c1 1;a9;r0 0 0;r1 1 0;r0 2 0;r1 2 0;");
+        z.presses(0, 1);
+        z.presses(1, 0);
+        z.ticks(1);
+        z.presses(3, 1);
+        Check.due("both go on, the other way round", z.ticks(1), 2);
+        Check.dueRadio(z, 0, 4, 1, 1, 1);
+        Check.dueRadio(z, 1, 4, 1, 0, 2);
+        Check.dueRadio(z, 3, 3, 1, 1, 0);
         TrunkRadio y = Check.told("c1 1;a9;r0 0 0;r1 1 0;r0 2 3;r1 2 0;");
         y.presses(0, 0);
         y.ticks(1);
@@ -557,5 +574,21 @@ public final class ActsTest {
         Check.due("GIVEN UP", x.count(6), 1);
         Check.due("that is no CUT", x.count(5), 0);
         Check.due("BEGAN", x.count(4), 1);
+        TrunkRadio y = Check.told("c1 1;a9;w1;r0 0 0;r0 1 0;");
+        y.presses(1, 0);
+        y.ticks(1);
+        y.presses(0, 1);
+        y.ticks(1);
+        Check.due("0 takes over", y.talker(0), 0);
+        y.presses(1, 1);
+        y.ticks(2);
+        Check.due("an URGENT one gives up, too", y.count(6), 1);
+        y.releases(0);
+        y.presses(1, 1);
+        y.ticks(1);
+        y.presses(0, 0);
+        y.ticks(2);
+        Check.due("so does the lowest", y.count(6), 2);
+        Check.dueRadio(y, 0, 0, 0, 0, 0);
     }
 }

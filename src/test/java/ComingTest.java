@@ -2,6 +2,7 @@
 public final class ComingTest {
     public static void main(String[] args) {
         soon();
+        farAway();
         within();
         wave();
         enough();
@@ -34,6 +35,28 @@ public final class ComingTest {
         y.ticks(1);
         y.presses(1, 0);
         Check.due("soon(1) of one who gives up", y.soon(1), TrunkRadio.NONE);
+    }
+
+    /** Without CONTROL, by one CHANNEL, each is SOFT for 9 TICKS, and the next one in the TICK behind. */
+    private static void farAway() {
+        TrunkRadio x = Check.told("c1 1;a9;r0 0 0;r0 1 0;r0 2 0;r0 3 0;r0 4 0;r0 5 0;r0 0 0;");
+        x.controls(0, 0);
+        x.ticks(1);
+        for (int radio = 0; radio < 7; radio++) {
+            x.presses(radio, 0);
+        }
+        Check.due("soon(0)", x.soon(0), 1);
+        Check.due("soon(5)", x.soon(5), 51);
+        Check.due("soon(6) behind 61", x.soon(6), TrunkRadio.NONE);
+        Check.due("wave behind 61", x.wave(0, 0), TrunkRadio.NONE);
+        Check.due("BEGUN in 60", x.within(60, 2), 6);
+        x.ticks(1);
+        Check.due("soon(6) behind 60", x.soon(6), 60);
+        Check.due("wave behind 60", x.wave(0, 0), 60);
+        Check.due("BEGUN in 59", x.within(59, 2), 5);
+        Check.due("BEGUN in 60", x.within(60, 2), 6);
+        dueOdds(x, 5, 2, 19, 0, 1);
+        dueOdds(x, 5, 2, 20, 1, 1);
     }
 
     private static void within() {
@@ -114,6 +137,13 @@ public final class ComingTest {
         // Without CONTROL GROUPS that leave the same by the CHANNELS of the trial wait as SENT; none can give up.
         x.controls(1, 0);
         Check.due("SOFT ones never give up", x.wave(24, 1), 1);
+        // What a trial or a text with a FAULT told must not be left behind.
+        Check.net(x, "c3 3;a1;w9;r0 0 0;x");
+        Check.due("behind a FAULT", x.wave(4, 1), 3);
+        x.presses(2, 0);
+        x.wave(0, 1);
+        x.sees(1, 1);
+        Check.due("ranks behind a trial", x.ranks(2), 15);
         // 1 waits NOW already, and gives up with one CHANNEL.
         TrunkRadio y = Check.told("c1 1;a9;w2;r0 0 0;r0 1 0;");
         y.presses(0, 0);

@@ -93,6 +93,23 @@ public final class RankTest {
         y.presses(2, 0);
         y.ticks(1);
         Check.due("behind 2 TICKS", y.look(2), 2);
+        // 0 TALKS yet for 2 TICKS, then 1, then 2; behind 20 TICKS 3 (by 4 RANK + 20) or 4 (by 27).
+        TrunkRadio z = Check.told("c1 1;a9;w20;r0 0 0;r0 1 3;r0 2 3;r0 3 0;r0 4 2;");
+        z.presses(0, 0);
+        z.ticks(1);
+        z.presses(1, 0);
+        z.ticks(1);
+        z.presses(2, 0);
+        z.ticks(5);
+        z.presses(3, 0);
+        z.ticks(1);
+        z.presses(4, 0);
+        Check.due("behind 20 TICKS", z.look(3), 20);
+        z.sees(20, 1);
+        Check.due("it talked", z.ranks(3), 12);
+        z.forget();
+        z.sees(20, 0);
+        Check.due("it was silent", z.ranks(3), 3);
     }
 
     private static void rankIsLookedAtFromNow() {

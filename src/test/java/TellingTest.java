@@ -143,8 +143,22 @@ public final class TellingTest {
         }
         Check.due("SITE as told", x.radio(1, 0), 0);
         Check.due("undo()", x.undo(), TrunkRadio.STATE);
+        x.controls(0, 0);
+        x.controls(1, 0);
         x.presses(0, 1);
         Check.due("net with one who is SENT", Check.net(x, "r0 2 2;"), 1);
         Check.dueRadio(x, 0, 0, 0, 0, 0);
+        Check.due("CONTROL of 0", x.site(0, 2), 1);
+        Check.due("CONTROL of 1", x.site(1, 2), 1);
+        Check.due("net() of nothing", x.net(), 0);
+        Check.due("no RADIOS then", x.count(0), 0);
+        TrunkRadio y = Check.told("c1 1;a9;w1;r0 0 0;r0 1 0;");
+        y.presses(0, 0);
+        y.ticks(1);
+        y.presses(1, 0);
+        y.ticks(2);
+        Check.due("GIVEN UP", y.count(6), 1);
+        y.net();
+        Check.due("GIVEN UP anew", y.count(6), 0);
     }
 }
