@@ -401,6 +401,15 @@ public final class ComingBoundsTest {
         z.ticks(1);
         z.sees(1, 1);
         Check.due("who TALKS NOW, and is CUT in the next TICK", z.ranks(0), 0);
+        // 0 and 3 collide for ever: a look far ahead has an end, too.
+        TrunkRadio u = Check.told("r0 0 0;r0 0 0;r0 0 0;r0 0 0;");
+        u.presses(0, 0);
+        u.presses(3, 0);
+        Check.due("look(0) of two who collide for ever", u.look(0), 1);
+        u.sees(20, 0);
+        Check.due("silent behind 20", u.ranks(3), 15);
+        u.sees(20, 1);
+        Check.due("that can't be", u.ranks(3), 0);
     }
 
     // "RANKS of a RADIO (bits) by which all that was SEEN is so", by RANK 0 .. 3
