@@ -145,6 +145,13 @@ public final class ActsTest {
         Check.due("its CHANNEL is there alone", x.radio(1, 6), 1);
         Check.due("moves(1) that is TALKING", x.moves(1), TrunkRadio.STATE);
         Check.due("acts", x.count(10), 5);
+        TrunkRadio y = Check.told("r0 0 0;r0 0 0;r1 0 0;");
+        Check.due("moves(1) away from 0", y.moves(1), 1);
+        Check.due("moves(2) to 0", y.moves(2), 0);
+        int[] sites = {0, 1, 0};
+        for (int radio = 0; radio < 3; radio++) {
+            Check.due("SITE of " + radio, y.radio(radio, 0), sites[radio]);
+        }
     }
 
     private static void undo() {

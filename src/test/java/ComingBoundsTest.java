@@ -256,6 +256,23 @@ public final class ComingBoundsTest {
             Check.due("two at the other SITE by " + taken, x.wave(48, 1), 2);
             Check.due("those who TALK are not PRESSED", x.wave((1 << taken) - 1, 1), 1);
         }
+        // What is taken is counted at each SITE for itself, by as many CHANNELS as that SITE has NOW.
+        for (int site = 0; site < 2; site++) {
+            String own = "r" + site + " ";
+            String other = "r" + (1 - site) + " ";
+            TrunkRadio x = Check.told((site == 0 ? "c3 1;" : "c1 3;") + "a9;w1;" + own + "0 0;" + own + "1 0;" + own + "2 0;"
+                + other + "3 0;" + other + "4 0;");
+            Check.due("two where three could be", x.wave(3, 1), 2);
+            Check.due("two where one could be", x.wave(24, 1), 2);
+            for (int radio = 0; radio < 2; radio++) {
+                x.presses(radio, 0);
+                x.ticks(1);
+            }
+            Check.due("none more", x.wave(0, 1), 1);
+            Check.due("one more where two of three are taken", x.wave(4, 1), 3);
+            Check.due("two where none of one is taken", x.wave(24, 1), 2);
+            Check.due("one where none of one is taken", x.wave(8, 1), 1);
+        }
     }
 
     private static void enoughOfWhoWaits() {
@@ -311,6 +328,17 @@ public final class ComingBoundsTest {
         dueOdds(x, 9, 1, 1, 1, 100000);
         dueOdds(x, 10, 1, 1, 0, 1);
         dueOdds(x, 0, 1, 1, 1, 1);
+        // Whichever number it has that is not IDLE.
+        for (int talks = 0; talks < 7; talks++) {
+            TrunkRadio y = Check.told("c3 3;r0 0 0;r0 1 0;r0 2 0;r0 3 0;r0 4 0;r0 5 0;r0 0 0;");
+            y.presses(talks, 0);
+            y.ticks(1);
+            for (int radio = 1; radio < 6; radio++) {
+                if (radio != talks) {
+                    dueOdds(y, 9, radio, 1, 1, 100000);
+                }
+            }
+        }
     }
 
     // "n TICKS (1 .. 20)": "that it is TALKING or SOFT behind any of them"
@@ -346,6 +374,23 @@ public final class ComingBoundsTest {
         dueOdds(x, 0, 0, 1, 0, 1);
         dueOdds(x, 0, 0, 2, 0, 1);
         dueOdds(x, 0, 0, 3, 1, 1);
+        TrunkRadio y = softForTwo();
+        dueOdds(y, 5, 0, 1, 1, 1);
+        dueOdds(y, 5, 0, 20, 1, 1);
+        y.ticks(1);
+        Check.due("it is SOFT for the last TICK", y.radio(0, 3), 5);
+        dueOdds(y, 5, 0, 1, 0, 1);
+        dueOdds(y, 5, 0, 20, 0, 1);
+    }
+
+    /** 0 is SOFT NOW and behind the next TICK; behind the one that follows it is IDLE. */
+    private static TrunkRadio softForTwo() {
+        TrunkRadio x = Check.told("a2;r0 0 0;r0 1 0;");
+        x.controls(0, 0);
+        x.presses(0, 0);
+        x.ticks(2);
+        Check.due("it is SOFT", x.radio(0, 3), 5);
+        return x;
     }
 
     /**
@@ -401,6 +446,12 @@ public final class ComingBoundsTest {
         z.ticks(1);
         z.sees(1, 1);
         Check.due("who TALKS NOW, and is CUT in the next TICK", z.ranks(0), 0);
+        TrunkRadio v = softForTwo();
+        v.sees(1, 1);
+        v.sees(2, 0);
+        Check.due("who is SOFT NOW, behind 1, and is IDLE behind 2", v.ranks(0), 15);
+        v.sees(2, 1);
+        Check.due("that can't be", v.ranks(0), 0);
         // 0 and 3 collide for ever: a look far ahead has an end, too.
         TrunkRadio u = Check.told("r0 0 0;r0 0 0;r0 0 0;r0 0 0;");
         u.presses(0, 0);

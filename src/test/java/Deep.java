@@ -28,7 +28,7 @@ final class Deep {
 
     static String trace(Supplier<TrunkRadio> recipe) {
         StringBuilder all = new StringBuilder();
-        all.append(plain(recipe.get())).append(coming(recipe.get()));
+        all.append(plain(recipe.get())).append(coming(recipe.get())).append(acting(recipe.get()));
         int acts = recipe.get().count(10);
         for (int undone = 1; undone <= acts; undone++) {
             TrunkRadio x = recipe.get();
@@ -56,6 +56,24 @@ final class Deep {
             all.append(x.queue(k)).append(' ');
         }
         return all.append('\n').toString();
+    }
+
+    /** What is done from here on: each act with each RADIO (one that there is not, too) and each SITE. */
+    private static String acting(TrunkRadio x) {
+        StringBuilder all = new StringBuilder();
+        for (int radio = 0; radio <= 7; radio++) {
+            all.append(x.moves(radio)).append(' ').append(x.presses(radio, radio & 1)).append(' ');
+        }
+        all.append(x.ticks(1)).append(' ').append(plain(x));
+        for (int site = 0; site < 2; site++) {
+            all.append(x.controls(site, 0)).append(' ').append(x.controls(site, 1)).append(' ');
+        }
+        for (int radio = 0; radio <= 7; radio++) {
+            all.append(x.releases(radio)).append(' ').append(x.soon(radio)).append(' ');
+            all.append(x.odds(9, radio, 9, 0)).append(' ').append(x.ranks(radio)).append(' ').append(x.look(radio));
+            all.append(' ').append(x.radio(radio, 0)).append(' ');
+        }
+        return all.append(x.ticks(1)).append(' ').append(plain(x)).toString();
     }
 
     /** What comes, and what was SEEN (it shows in RANKS). */

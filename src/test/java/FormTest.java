@@ -1,33 +1,37 @@
 import java.io.IOException;
+import java.lang.reflect.Array;
 import java.lang.reflect.Field;
 import java.lang.reflect.Member;
 import java.lang.reflect.Method;
 import java.lang.reflect.Modifier;
 import java.nio.file.Files;
 import java.nio.file.Path;
+import java.util.ArrayDeque;
 import java.util.ArrayList;
 import java.util.Arrays;
+import java.util.Collections;
+import java.util.Deque;
+import java.util.IdentityHashMap;
 import java.util.List;
+import java.util.Objects;
 import java.util.Set;
 import java.util.TreeSet;
-import java.util.regex.Matcher;
 import java.util.regex.Pattern;
 import java.util.stream.Collectors;
 
-/** The rules of LANGUAGE.md that can be seen from the source and from the compiled class. */
+/** The rules of LANGUAGE.md that can be seen from the compiled class, from single words and from what an object holds. */
 public final class FormTest {
     private static final Path SOURCE = Path.of("src/main/java/TrunkRadio.java");
     private static final String FACE = "back(int) clear() controls(int,int) count(int) forget() keep(int) look(int) "
         + "moves(int) net() odds(int,int,int,int) presses(int,int) queue(int) radio(int,int) ranks(int) releases(int) "
         + "sees(int,int) site(int,int) soon(int) talker(int) ticks(int) type(int) undo() wave(int,int) within(int,int)";
 
-    public static void main(String[] args) throws IOException {
+    public static void main(String[] args) throws IOException, IllegalAccessException {
         String code = withoutComments(Files.readString(SOURCE));
         face();
         nestedClasses();
         forbiddenWords(code);
-        library(code);
-        methodsAreShort(code);
+        room();
         Check.end();
     }
 
@@ -110,29 +114,48 @@ public final class FormTest {
         Check.isTrue("plain signs alone", code.chars().allMatch(c -> c == '\n' || c >= 32 && c < 127));
     }
 
-    private static void library(String code) {
-        Set<String> used = new TreeSet<>();
-        Matcher m = Pattern.compile("\\b(System|Math|Integer|Long|Arrays|String)\\.(\\w+)").matcher(code);
-        while (m.find()) {
-            used.add(m.group(1) + "." + m.group(2));
+    /** What one object holds is little, and no call makes it more: all objects of a run live in one room. */
+    private static void room() throws IllegalAccessException {
+        TrunkRadio x = Made.fresh();
+        int[] fresh = held(x);
+        Check.isTrue("objects and arrays: " + fresh[0], fresh[0] <= 200);
+        Check.isTrue("fields and elements: " + fresh[1], fresh[1] <= 2000);
+        TrunkRadio[] used = {Made.busy(), Made.brim()};
+        for (TrunkRadio one : used) {
+            Deep.plain(one);
+            Check.due("objects and arrays of one that was used", held(one)[0], fresh[0]);
+            Check.due("fields and elements of one that was used", held(one)[1], fresh[1]);
         }
-        Set<String> allowed = Set.of("System.arraycopy", "Math.max", "Math.min", "Integer.bitCount");
-        Check.isTrue("the library: " + used, allowed.containsAll(used));
     }
 
-    private static void methodsAreShort(String code) {
-        String[] lines = code.split("\n");
-        for (int i = 0; i < lines.length; i++) {
-            boolean isHead = lines[i].matches(" {4,8}(public|private|static|final|int|boolean|void|[A-Z]\\w*)\\b.*\\) \\{");
-            if (!isHead) {
+    /** How many objects and arrays can be reached from one, itself included, and how many fields and elements they have. */
+    private static int[] held(Object root) throws IllegalAccessException {
+        Set<Object> known = Collections.newSetFromMap(new IdentityHashMap<>());
+        Deque<Object> open = new ArrayDeque<>(List.of(root));
+        int places = 0;
+        while (!open.isEmpty()) {
+            Object one = open.pop();
+            if (!known.add(one)) {
                 continue;
             }
-            String end = lines[i].replaceAll("\\S.*", "") + "}";
-            int last = i;
-            while (last < lines.length && !lines[last].equals(end)) {
-                last++;
+            if (one.getClass().isArray()) {
+                places += Array.getLength(one);
+                if (one instanceof Object[] row) {
+                    Arrays.stream(row).filter(Objects::nonNull).forEach(open::push);
+                }
+                continue;
             }
-            Check.isTrue("short: " + lines[i].trim(), last - i <= 60);
+            for (Field f : one.getClass().getDeclaredFields()) {
+                if (Modifier.isStatic(f.getModifiers())) {
+                    continue;
+                }
+                places++;
+                f.setAccessible(true);
+                if (!f.getType().isPrimitive() && f.get(one) != null) {
+                    open.push(f.get(one));
+                }
+            }
         }
+        return new int[] {known.size(), places};
     }
 }
